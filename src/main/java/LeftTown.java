@@ -202,7 +202,7 @@ public final class LeftTown {
             return BAD;
         }
         ways.prepare(town, width, BY_LAW);
-        ways.measureTo(town, c);
+        ways.measureTo(c);
         int found = ways.leftFrom(course);
         return found == NO_WAY ? NONE : found;
     }
@@ -212,15 +212,16 @@ public final class LeftTown {
             return BAD;
         }
         ways.prepare(town, width, BY_LAW);
-        ways.measureTo(town, c);
-        return ways.firstFrom(town, course);
+        ways.measureTo(c);
+        return ways.firstFrom(course);
     }
 
     public int free(int a, int b) {
         if (!town.hasCrossing(a) || !town.hasCrossing(b)) {
             return BAD;
         }
-        ways.measureFreely(town);
+        ways.look(town);
+        ways.measureFreely();
         int found = ways.apart[a][b];
         return found == NO_WAY ? NONE : found;
     }
@@ -230,7 +231,7 @@ public final class LeftTown {
             return BAD;
         }
         ways.prepare(town, width, BY_LAW);
-        return ways.crossingsFrom(town, course);
+        return ways.crossingsFrom(course);
     }
 
     public int pairs(int width) {
@@ -238,7 +239,7 @@ public final class LeftTown {
             return BAD;
         }
         ways.prepare(town, width, BY_LAW);
-        return ways.countPairs(town);
+        return ways.countPairs(ways.courses);
     }
 
     public int never(int width) {
@@ -246,7 +247,7 @@ public final class LeftTown {
             return BAD;
         }
         ways.prepare(town, width, BY_LAW);
-        return ways.crossingsNeverReached(town);
+        return ways.crossingsNeverReached();
     }
 
     public int parts(int width) {
@@ -262,7 +263,7 @@ public final class LeftTown {
             return BAD;
         }
         ways.prepare(town, width, BY_LAW);
-        int found = ways.loopOf(town, course);
+        int found = ways.loopOf(course);
         return found == NO_WAY ? NONE : found;
     }
 
@@ -271,8 +272,8 @@ public final class LeftTown {
             return BAD;
         }
         ways.prepare(town, width, BY_LAW);
-        ways.measureFreely(town);
-        return ways.worstDetour(town);
+        ways.measureFreely();
+        return ways.worstDetour();
     }
 
     public int opened(int width) {
@@ -280,7 +281,7 @@ public final class LeftTown {
             return BAD;
         }
         ways.prepare(town, width, BY_LAW);
-        return ways.bestToOpen(town);
+        return ways.bestToOpen();
     }
 
     public int meet(int v, int w, int what) {
@@ -289,10 +290,10 @@ public final class LeftTown {
         }
         Arrays.fill(ways.greater, 0);
         ways.prepare(town, town.walkers[v][WIDTH], BY_LAW);
-        ways.raiseGreater(town, town.walkers[v][COURSE]);
+        ways.raiseGreater(town.walkers[v][COURSE]);
         ways.prepare(town, town.walkers[w][WIDTH], BY_LAW);
-        ways.raiseGreater(town, town.walkers[w][COURSE]);
-        int c = ways.meetingPlace(town);
+        ways.raiseGreater(town.walkers[w][COURSE]);
+        int c = ways.meetingPlace();
         if (c == NONE) {
             return NONE;
         }
@@ -304,7 +305,7 @@ public final class LeftTown {
             return BAD;
         }
         ways.prepare(town, 0, bits);
-        return ways.countPairs(town);
+        return ways.countPairs(ways.courses);
     }
 
     // ---- rows
@@ -314,11 +315,11 @@ public final class LeftTown {
             return BAD;
         }
         ways.prepare(town, 0, BY_LAW);
-        ways.measureTo(town, c);
+        ways.measureTo(c);
         if (ways.leftFrom(course) == NO_WAY) {
             return NONE;
         }
-        rowCount = ways.writeRows(town, course, rows);
+        rowCount = ways.writeRows(course, rows);
         return rowCount;
     }
 
@@ -454,7 +455,19 @@ public final class LeftTown {
             return 0;
         }
         latest = thingOf(kindOnShelf(shelf), host.one[shelf], host.two[shelf]);
-        return latest == null ? 0 : latest.answer(act, x);
+        if (latest == null) {
+            return 0;
+        }
+        switch (act) {
+            case 0:
+                return latest.turns(x);
+            case 1:
+                return latest.goes(x);
+            case 2:
+                return latest.sees(x);
+            default:
+                return latest.tells(x);
+        }
     }
 
     public int trace(int i) {
@@ -1107,58 +1120,81 @@ public final class LeftTown {
         }
     }
 
-    /** How far it is, and what can be come to, by TURNS that prepare() found. Sets are bits. */
+    /** How far it is, and what can be come to, in a town that was looked at. Sets are bits. */
     private static final class Ways {
-        // To which COURSES a TURN that may be gone leads; those of shut STREETS are told too, so that
-        // opened() needs no second look: what asks for those that there are looks at `courses`.
+        final int[] begins = new int[MOST_COURSES];
+        final int[] ends = new int[MOST_COURSES];
+        final int[] longs = new int[MOST_COURSES];
+        // To which ways a TURN that may be gone leads, those of shut STREETS too: opened() asks for them.
         final long[] nexts = new long[MOST_COURSES];
         final long[] reached = new long[MOST_COURSES];
         final int[] left = new int[MOST_COURSES];
         final int[] greater = new int[MOST_CROSSINGS];
         final int[][] apart = new int[MOST_CROSSINGS][MOST_CROSSINGS];
         long courses;
+        long shutWays;
+        int count;
+        int crossingCount;
+
+        /** Where COURSES and those that a shut STREET would have begin and end. */
+        void look(Town town) {
+            courses = 0;
+            shutWays = 0;
+            count = Math.min(2 * town.streetCount, MOST_COURSES);
+            crossingCount = Math.min(town.crossingCount, MOST_CROSSINGS);
+            for (int u = 0; u < count; u++) {
+                long bit = 1L << u;
+                boolean isCourse = town.hasCourse(u);
+                courses |= isCourse ? bit : 0;
+                shutWays |= !isCourse && town.hasWay(u) ? bit : 0;
+                begins[u] = town.beginOf(u);
+                ends[u] = town.endOf(u);
+                longs[u] = town.longOf(u);
+            }
+        }
 
         /** By a WIDTH, and by THE LAW or by bits that stand for it. */
         void prepare(Town town, int width, int bits) {
-            int count = Math.min(2 * town.streetCount, MOST_COURSES);
-            courses = 0;
+            look(town);
             for (int u = 0; u < count; u++) {
-                courses |= town.hasCourse(u) ? 1L << u : 0;
-                nexts[u] = 0;
+                long found = 0;
                 for (int v = 0; v < count; v++) {
-                    boolean is = bits == BY_LAW ? town.mayGo(u, v, width) : town.isOneOf(u, v, bits);
-                    nexts[u] |= is ? 1L << v : 0;
+                    if (ends[u] == begins[v]) {
+                        boolean is = bits == BY_LAW ? town.mayGo(u, v, width) : town.isOneOf(u, v, bits);
+                        found |= is ? 1L << v : 0;
+                    }
                 }
+                nexts[u] = found;
             }
         }
 
         int leftFrom(int course) {
-            return isCourseNumber(course) ? left[course] : NO_WAY;
+            return course >= 0 && course < count ? left[course] : NO_WAY;
         }
 
-        /** FAR of every COURSE to a CROSSING. */
-        void measureTo(Town town, int c) {
+        /** FAR of every COURSE to a CROSSING, in `left`. */
+        void measureTo(int c) {
             long targets = 0;
-            for (int u = 0; u < MOST_COURSES; u++) {
-                targets |= isIn(courses, u) && town.endOf(u) == c ? 1L << u : 0;
+            for (int u = 0; u < count; u++) {
+                targets |= ends[u] == c ? 1L << u : 0;
             }
-            measure(town, targets);
+            measure(targets & courses);
         }
 
         // The nearest comes first, and what leads onto it next: no LONG is below 0.
-        private void measure(Town town, long targets) {
-            for (int u = 0; u < MOST_COURSES; u++) {
+        private void measure(long targets) {
+            for (int u = 0; u < count; u++) {
                 left[u] = isIn(targets, u) ? 0 : NO_WAY;
             }
             long open = courses;
-            for (int round = 0; round < MOST_COURSES; round++) {
+            for (int round = 0; round < count; round++) {
                 int v = nearest(open);
                 if (v < 0) {
                     return;
                 }
                 open &= ~(1L << v);
-                int through = left[v] + town.longOf(v);
-                for (int u = 0; u < MOST_COURSES; u++) {
+                int through = left[v] + longs[v];
+                for (int u = 0; u < count; u++) {
                     if (through < left[u] && isIn(open, u) && isIn(nexts[u], v)) {
                         left[u] = through;
                     }
@@ -1169,7 +1205,7 @@ public final class LeftTown {
         private int nearest(long open) {
             int found = -1;
             int least = NO_WAY;
-            for (int u = 0; u < MOST_COURSES; u++) {
+            for (int u = 0; u < count; u++) {
                 if (left[u] < least && isIn(open, u)) {
                     least = left[u];
                     found = u;
@@ -1179,114 +1215,108 @@ public final class LeftTown {
         }
 
         /** FIRST, towards what was measured; NONE if there is no way or it is 0. */
-        int firstFrom(Town town, int course) {
+        int firstFrom(int course) {
             int all = leftFrom(course);
             if (all == NO_WAY || all == 0) {
                 return NONE;
             }
-            for (int v = 0; v < MOST_COURSES; v++) {
-                if (isIn(nexts[course] & courses, v) && left[v] + town.longOf(v) == all) {
+            for (int v = 0; v < count; v++) {
+                if (isIn(nexts[course] & courses, v) && left[v] + longs[v] == all) {
                     return v;
                 }
             }
             return NONE;
         }
 
-        int writeRows(Town town, int course, int[][] rows) {
+        int writeRows(int course, int[][] rows) {
             int at = course;
             int till = 0;
-            int count = 0;
             for (int i = 0; i < MOST_ROWS && i < rows.length; i++) {
-                at = firstFrom(town, at);
+                at = firstFrom(at);
                 if (at == NONE) {
-                    return count;
+                    return i;
                 }
-                till += town.longOf(at);
+                till += longs[at];
                 rows[i][ROW_COURSE] = at;
-                rows[i][ROW_CROSSING] = town.endOf(at);
+                rows[i][ROW_CROSSING] = ends[at];
                 rows[i][ROW_LONG] = till;
-                count++;
             }
-            return count;
+            return MOST_ROWS;
         }
 
-        int loopOf(Town town, int course) {
-            if (!isCourseNumber(course)) {
+        int loopOf(int course) {
+            if (course < 0 || course >= count) {
                 return NO_WAY;
             }
-            measure(town, 1L << course);
+            measure(1L << course);
             int least = NO_WAY;
-            for (int v = 0; v < MOST_COURSES; v++) {
+            for (int v = 0; v < count; v++) {
                 if (isIn(nexts[course] & courses, v) && left[v] < NO_WAY) {
-                    least = Math.min(least, left[v] + town.longOf(v));
+                    least = Math.min(least, left[v] + longs[v]);
                 }
             }
             return least;
         }
 
-        /** COURSES to which TURNS lead, one behind the other, and the one told. */
+        /** The COURSE and those of `there` to which TURNS lead from it, one behind the other. */
         private long coursesFrom(int course, long there) {
             long seen = 1L << course;
             long todo = seen;
-            for (int round = 0; round < MOST_COURSES && todo != 0; round++) {
+            for (int round = 0; round < count && todo != 0; round++) {
                 int u = Long.numberOfTrailingZeros(todo);
-                long fresh = u < MOST_COURSES ? nexts[u] & there & ~seen : 0;
+                long fresh = u < count ? nexts[u] & there & ~seen : 0;
                 seen |= fresh;
                 todo = todo & ~(1L << u) | fresh;
             }
             return seen;
         }
 
-        int crossingsFrom(Town town, int course) {
-            return endsOf(town, coursesFrom(course, courses));
-        }
-
-        private static int endsOf(Town town, long set) {
+        private int endsOf(long set) {
             int found = 0;
-            for (int u = 0; u < MOST_COURSES; u++) {
-                found |= isIn(set, u) ? 1 << town.endOf(u) : 0;
+            for (int u = 0; u < count; u++) {
+                found |= isIn(set, u) ? 1 << ends[u] : 0;
             }
             return found;
         }
 
-        int countPairs(Town town) {
-            return countPairsAmong(town, courses);
+        int crossingsFrom(int course) {
+            return endsOf(coursesFrom(course, courses));
         }
 
-        private int countPairsAmong(Town town, long there) {
-            int count = 0;
-            for (int u = 0; u < MOST_COURSES; u++) {
+        int countPairs(long there) {
+            int pairs = 0;
+            for (int u = 0; u < count; u++) {
                 if (isIn(there, u)) {
-                    count += Integer.bitCount(endsOf(town, coursesFrom(u, there)));
+                    pairs += Integer.bitCount(endsOf(coursesFrom(u, there)));
                 }
             }
-            return count;
+            return pairs;
         }
 
-        int crossingsNeverReached(Town town) {
+        int crossingsNeverReached() {
             int come = 0;
-            for (int u = 0; u < MOST_COURSES; u++) {
+            for (int u = 0; u < count; u++) {
                 if (isIn(courses, u)) {
-                    come |= crossingsFrom(town, u) & ~(1 << town.endOf(u));
+                    come |= crossingsFrom(u) & ~(1 << ends[u]);
                 }
             }
-            return (1 << town.crossingCount) - 1 & ~come;
+            return (1 << crossingCount) - 1 & ~come;
         }
 
         // Each group is counted at its least COURSE.
         int countParts() {
-            for (int u = 0; u < MOST_COURSES; u++) {
-                reached[u] = isIn(courses, u) ? coursesFrom(u, courses) : 0;
+            int parts = 0;
+            for (int u = 0; u < count; u++) {
+                if (isIn(courses, u)) {
+                    reached[u] = coursesFrom(u, courses);
+                    parts += isWithLesser(u) ? 0 : 1;
+                }
             }
-            int count = 0;
-            for (int u = 0; u < MOST_COURSES; u++) {
-                count += isIn(courses, u) && !isWithLesser(u) ? 1 : 0;
-            }
-            return count;
+            return parts;
         }
 
         private boolean isWithLesser(int u) {
-            for (int v = 0; v < u && u < MOST_COURSES; v++) {
+            for (int v = 0; v < u && v < count; v++) {
                 if (isIn(reached[u], v) && isIn(reached[v], u)) {
                     return true;
                 }
@@ -1295,54 +1325,51 @@ public final class LeftTown {
         }
 
         /** FREE from every CROSSING to every one, in `apart`. */
-        void measureFreely(Town town) {
+        void measureFreely() {
             for (int a = 0; a < MOST_CROSSINGS; a++) {
                 Arrays.fill(apart[a], NO_WAY);
                 apart[a][a] = 0;
             }
-            for (int u = 0; u < MOST_COURSES; u++) {
-                if (town.hasCourse(u)) {
-                    int[] from = apart[town.beginOf(u)];
-                    from[town.endOf(u)] = Math.min(from[town.endOf(u)], town.longOf(u));
+            for (int u = 0; u < count; u++) {
+                if (isIn(courses, u)) {
+                    int[] from = apart[begins[u]];
+                    from[ends[u]] = Math.min(from[ends[u]], longs[u]);
                 }
             }
-            for (int by = 0; by < MOST_CROSSINGS; by++) {
-                for (int a = 0; a < MOST_CROSSINGS; a++) {
+            for (int by = 0; by < crossingCount; by++) {
+                for (int a = 0; a < crossingCount; a++) {
                     goBy(apart[a], apart[a][by], apart[by]);
                 }
             }
         }
 
-        private static void goBy(int[] from, int till, int[] on) {
-            for (int b = 0; b < MOST_CROSSINGS && till < NO_WAY; b++) {
+        private void goBy(int[] from, int till, int[] on) {
+            for (int b = 0; b < crossingCount && till < NO_WAY; b++) {
                 from[b] = Math.min(from[b], till + on[b]);
             }
         }
 
-        int worstDetour(Town town) {
+        int worstDetour() {
             int most = NONE;
-            for (int c = 0; c < town.crossingCount; c++) {
-                measureTo(town, c);
-                for (int u = 0; u < MOST_COURSES; u++) {
-                    if (isIn(courses, u) && left[u] < NO_WAY) {
-                        most = Math.max(most, left[u] - apart[town.endOf(u)][c]);
+            for (int c = 0; c < crossingCount; c++) {
+                measureTo(c);
+                for (int u = 0; u < count; u++) {
+                    if (left[u] < NO_WAY) {
+                        most = Math.max(most, left[u] - apart[ends[u]][c]);
                     }
                 }
             }
             return most;
         }
 
-        int bestToOpen(Town town) {
-            int most = countPairs(town);
+        int bestToOpen() {
+            int most = countPairs(courses);
             int best = NONE;
-            for (int s = 0; s < town.streetCount; s++) {
-                if (town.streets[s][SHUT] == 0) {
-                    continue;
-                }
-                long both = 1L << 2 * s | (town.hasWay(2 * s + 1) ? 2L << 2 * s : 0);
-                int count = countPairsAmong(town, courses | both);
-                if (count > most) {
-                    most = count;
+            for (int s = 0; 2 * s < count; s++) {
+                long fresh = shutWays & 3L << 2 * s;
+                int pairs = fresh == 0 ? 0 : countPairs(courses | fresh);
+                if (pairs > most) {
+                    most = pairs;
                     best = s;
                 }
             }
@@ -1350,19 +1377,19 @@ public final class LeftTown {
         }
 
         /** What was prepared by a WALKER's WIDTH tells his FARS: `greater` is not below them. */
-        void raiseGreater(Town town, int course) {
-            for (int c = 0; c < town.crossingCount && c < MOST_CROSSINGS; c++) {
-                measureTo(town, c);
+        void raiseGreater(int course) {
+            for (int c = 0; c < crossingCount; c++) {
+                measureTo(c);
                 // He whose COURSE is no more is at its end still, though no TURN leads from it.
-                int found = town.endOf(course) == c ? 0 : leftFrom(course);
-                greater[c] = Math.max(greater[c], found);
+                boolean isThere = course >= 0 && course < count && ends[course] == c;
+                greater[c] = Math.max(greater[c], isThere ? 0 : leftFrom(course));
             }
         }
 
-        int meetingPlace(Town town) {
+        int meetingPlace() {
             int least = NO_WAY;
             int found = NONE;
-            for (int c = 0; c < town.crossingCount && c < MOST_CROSSINGS; c++) {
+            for (int c = 0; c < crossingCount; c++) {
                 if (greater[c] < least) {
                     least = greater[c];
                     found = c;
@@ -1432,19 +1459,6 @@ public final class LeftTown {
         Thing(int from, int to) {
             n = from;
             a = to;
-        }
-
-        final int answer(int act, int x) {
-            switch (act) {
-                case 0:
-                    return turns(x);
-                case 1:
-                    return goes(x);
-                case 2:
-                    return sees(x);
-                default:
-                    return tells(x);
-            }
         }
 
         final void begin(int body) {

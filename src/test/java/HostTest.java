@@ -207,6 +207,15 @@ public final class HostTest {
         Check.due("sharp or not", t.turn(9, 6), 2);
         Check.due("cut towards 0", t.act(0, 2, 7), -2);
         Check.due("cut towards 0", t.act(0, 2, -7), 2);
+        t.shelf(0, 0, 5, 2);
+        Check.due("left", t.turn(5, 2), 2);
+        Check.due("left, tells by n", t.act(0, 3, 7), (7 + 2) * 2 - 2 ^ 5);
+        t.crossing(8, 8);
+        t.street(1, 6, 1, false);
+        t.shelf(0, 0, 11, 2);
+        Check.due("sharp", t.turn(11, 2), 3);
+        Check.due("sharp, turns", t.act(0, 0, 7), 7 + 2 ^ 11);
+        Check.due("sharp, tells and sees", t.act(0, 3, 7), ((7 + 2 ^ 11) * 2 - 2 ^ 11) + 11 / (2 - 11));
         t.shelf(0, 0, 3, 2);
         Check.due("by -1", t.act(0, 2, Integer.MAX_VALUE), Integer.MIN_VALUE + (3 + 2));
         Check.due("sees of round", t.act(0, 2, 5), -6 + (3 + 2));

@@ -66,6 +66,9 @@ public final class LawTest {
         fault("on if", 5);
         fault("onif 1<2;", 0);
         fault("On;", 0);
+        fault("onz;", 0);
+        fault("on;az;", 3);
+        fault("on 09a;", 3);
         fault(";", 0);
         fault("on;;", 3);
         fault("on 1;", 3);

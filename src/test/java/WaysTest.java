@@ -171,11 +171,17 @@ public final class WaysTest {
         Check.due("the third helps more now", t.opened(0), 2);
         Check.due("by 3 it does not", t.opened(3), 1);
         Check.due("what was asked stays shut", t.streetOf(1, 5) + t.streetOf(2, 5), 2);
+        t.shut(1, false);
+        t.shut(2, false);
+        Check.due("none is shut any more", t.opened(0), LeftTown.NONE);
         LeftTown same = new LeftTown();
         same.crossing(0, 0);
         same.crossing(1, 0);
         same.crossing(2, 0);
         same.street(0, 1, 1, true);
+        same.shut(0, true);
+        Check.due("the only one", same.opened(9), 0);
+        same.shut(0, false);
         same.street(1, 2, 1, true);
         same.street(1, 2, 1, true);
         same.shut(1, true);
@@ -198,6 +204,9 @@ public final class WaysTest {
         Check.due("place, turned about", t.meet(1, 0, 0), 1);
         Check.due("a cart stands still", t.meet(0, 2, 0), 2);
         Check.due("far to the cart", t.meet(0, 2, 1), 4);
+        Check.due("the cart can't come to meet him", t.meet(1, 2, 0), 2);
+        Check.due("he goes all the way", t.meet(1, 2, 1), 12);
+        Check.due("he goes all the way, turned about", t.meet(2, 1, 1), 12);
         t.put(1, 2);
         Check.due("both at one place", t.meet(1, 2, 0), 2);
         Check.due("far 0", t.meet(1, 2, 1), 0);
@@ -226,6 +235,15 @@ public final class WaysTest {
         t.street(1, 2, 5, false);
         Check.due("the other comes to 2", t.meet(0, 1, 0), 2);
         Check.due("as far as that", t.meet(0, 1, 1), 8);
+        t.put(0, 0);
+        t.shut(1, false);
+        t.put(1, 6);
+        t.shut(0, true);
+        t.street(0, 1, 5, false);
+        Check.due("the other comes to 1", t.meet(0, 1, 0), 1);
+        Check.due("as far as that", t.meet(1, 0, 1), 4);
+        t.shut(3, true);
+        Check.due("both are no more, and apart", t.meet(0, 1, 0), LeftTown.NONE);
     }
 
     private static void others() {
