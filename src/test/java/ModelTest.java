@@ -371,13 +371,13 @@ public final class ModelTest {
         int d;
         switch (what % 10) {
             case 0:
-                b = some(6) - 1;
-                d = chance.nextInt(8) == 0 ? wild() : chance.nextInt(12);
+                b = chance.nextInt(3) == 0 ? 0 : some(6) - 1;
+                d = chance.nextInt(8) == 0 ? wild() : chance.nextInt(41);
                 told = name("sheet", a, b, d);
                 return new long[] {town.sheet(a, b, d), model.sheet(a, b, d)};
             case 1:
                 b = some(12);
-                d = wild();
+                d = chance.nextBoolean() ? wild() : chance.nextInt(11);
                 told = name("write", a, b, d);
                 return new long[] {town.write(a, b, d), model.write(a, b, d)};
             case 2:
