@@ -5,6 +5,7 @@ public final class RowsTest {
         altering();
         judging();
         moreThanTwenty();
+        onFoot();
         Check.end();
     }
 
@@ -107,5 +108,21 @@ public final class RowsTest {
         Check.due("judge", t.judge(0), 0);
         t.alterRow(19, 2, 21);
         Check.due("judge the last", t.judge(0), 20);
+    }
+
+    private static void onFoot() {
+        LeftTown t = Check.star();
+        Check.due("sharp is for those on foot", t.prove(0, 4), 1);
+        Check.due("its COURSE", t.row(0, 0), 6);
+        Check.due("its end", t.row(0, 1), 4);
+        Check.due("its LONG", t.row(0, 2), 8);
+        Check.due("THE READER goes on foot", t.judge(0), 0);
+        Check.law(t, "turn if width = 0;");
+        Check.due("WIDTH is 0", t.prove(0, 4), 1);
+        Check.due("WIDTH is 0", t.judge(0), 0);
+        Check.law(t, "turn if width > 0;");
+        Check.due("WIDTH is not above 0", t.prove(0, 4), LeftTown.NONE);
+        Check.due("WIDTH is not above 0", t.judge(0), 1);
+        Check.due("ROWS stay", t.many(5), 1);
     }
 }

@@ -14,6 +14,12 @@ public final class WaysTest {
         meetingWhereAStreetWasShut();
         others();
         wrongWidths();
+        theFirstOfAll();
+        firstsOnTheWay();
+        freeIsOnFoot();
+        meetingTies();
+        partsBothWays();
+        openedAnew();
         Check.end();
     }
 
@@ -282,5 +288,140 @@ public final class WaysTest {
             Check.due("worst", t.worst(width), LeftTown.BAD);
             Check.due("opened", t.opened(width), LeftTown.BAD);
         }
+    }
+
+    // COURSE 0 and CROSSING 0 count as any other.
+    private static void theFirstOfAll() {
+        LeftTown t = Check.square();
+        Check.due("FIRST is 0", t.first(6, 1, 0), 0);
+        t.walker(4, 0);
+        t.walker(6, 0);
+        Check.due("MEET is 0", t.meet(0, 1, 0), 0);
+        Check.due("one of them goes 4", t.meet(0, 1, 1), 4);
+        LeftTown one = new LeftTown();
+        one.crossing(0, 0);
+        one.crossing(4, 0);
+        one.crossing(4, 4);
+        one.crossing(0, 4);
+        for (int s = 0; s < 4; s++) {
+            one.street(s, (s + 1) % 4, 1, true);
+        }
+        one.street(1, 0, 1, true);
+        Check.due("all the way round", one.far(0, 0, 0), 12);
+        Check.due("freely it is 4", one.free(1, 0), 4);
+        Check.due("only from COURSE 0 to CROSSING 0", one.worst(0), 8);
+        one.shut(4, true);
+        Check.due("no other is longer than freely", one.worst(0), 0);
+        Check.due("STREET 4 helps, if by its own", one.opened(0), 4);
+        one.shut(0, true);
+        Check.due("STREET 0 helps more", one.opened(0), 0);
+    }
+
+    // Two walks part behind the first CROSSING, two behind the second: the least COURSE each time.
+    private static void firstsOnTheWay() {
+        LeftTown t = new LeftTown();
+        t.crossing(0, 0);
+        t.crossing(1, 0);
+        t.crossing(2, 0);
+        t.crossing(3, 0);
+        t.street(2, 3, 1, true);
+        t.street(2, 3, 1, true);
+        t.street(1, 2, 1, true);
+        t.street(1, 2, 1, true);
+        t.street(0, 1, 1, true);
+        t.street(1, 3, 1, true);
+        Check.due("first", t.first(8, 3, 0), 4);
+        Check.due("two ROWS", t.prove(8, 3), 2);
+        Check.due("the first", t.row(0, 0), 4);
+        Check.due("the second", t.row(1, 0), 0);
+        t.shut(0, true);
+        t.shut(2, true);
+        t.prove(8, 3);
+        Check.due("the first, one shut", t.row(0, 0), 6);
+        Check.due("the second, one shut", t.row(1, 0), 2);
+        t.shut(1, true);
+        Check.due("one ROW", t.prove(8, 3), 1);
+        Check.due("straight there", t.row(0, 0), 10);
+        t.shut(5, true);
+        Check.due("none", t.first(8, 3, 0), LeftTown.NONE);
+    }
+
+    // FREE is on foot though WORST is by a WIDTH.
+    private static void freeIsOnFoot() {
+        LeftTown t = new LeftTown();
+        t.crossing(0, 0);
+        t.crossing(1, 0);
+        t.crossing(2, 0);
+        t.crossing(2, 2);
+        t.crossing(1, 2);
+        t.street(0, 1, 9, true);
+        t.street(1, 2, 9, true);
+        t.street(2, 3, 9, true);
+        t.street(3, 4, 9, true);
+        t.street(1, 4, 3, true);
+        Check.due("on foot", t.worst(0), 0);
+        Check.due("as WIDE as the short way", t.worst(3), 0);
+        Check.due("wider", t.worst(4), 4 - 2);
+        Check.due("the long way", t.far(0, 4, 4), 4);
+        Check.due("the short way", t.free(1, 4), 2);
+    }
+
+    private static void meetingTies() {
+        LeftTown t = new LeftTown();
+        for (int i = 0; i < 5; i++) {
+            t.crossing(2 * i, 0);
+        }
+        for (int i = 0; i < 4; i++) {
+            t.street(i, i + 1, 5, false);
+        }
+        t.walker(0, 0);
+        t.walker(7, 5);
+        Check.due("amid them", t.meet(0, 1, 0), 2);
+        Check.due("as far for both", t.meet(0, 1, 1), 2);
+        t.put(1, 5);
+        Check.due("the greater is 2 at both: the least", t.meet(0, 1, 0), 1);
+        Check.due("the greater", t.meet(0, 1, 1), 2);
+        Check.due("turned about", t.meet(1, 0, 0), 1);
+        t.widen(1, 4);
+        Check.due("the cart can't: he comes to it", t.meet(0, 1, 0), 2);
+        t.put(0, 5);
+        Check.due("both there", t.meet(0, 1, 1), 0);
+    }
+
+    // A group needs TURNS both ways: one way alone makes none.
+    private static void partsBothWays() {
+        LeftTown t = new LeftTown();
+        for (int i = 0; i < 4; i++) {
+            t.crossing(i, 0);
+        }
+        t.street(0, 1, 1, true);
+        t.street(1, 2, 1, true);
+        t.street(2, 3, 1, true);
+        Check.due("three behind one another", t.parts(0), 3);
+        t.street(3, 0, 1, true);
+        Check.due("back by no lawful TURN", t.parts(0), 4);
+        Check.law(t, "turn;");
+        Check.due("one group", t.parts(0), 1);
+        Check.law(t, "turn if place < 3;");
+        Check.due("not round at 3", t.parts(0), 4);
+        Check.due("one WIDE is less than 2", t.parts(2), 4);
+        t.shut(0, true);
+        Check.due("a COURSE less", t.parts(0), 3);
+    }
+
+    // STREET 0 of now is another one than that of which opened() was asked before.
+    private static void openedAnew() {
+        LeftTown t = new LeftTown();
+        t.crossing(0, 0);
+        t.crossing(1, 0);
+        t.keep();
+        t.street(0, 1, 1, false);
+        t.shut(0, true);
+        Check.due("both ways", t.opened(0), 0);
+        t.again();
+        Check.due("no STREET", t.opened(0), LeftTown.NONE);
+        t.street(0, 1, 1, true);
+        Check.due("one way, and open", t.opened(0), LeftTown.NONE);
+        Check.due("its own end", t.pairs(0), 1);
     }
 }
