@@ -1,10 +1,17 @@
 import java.io.IOException;
+import java.lang.reflect.Array;
 import java.lang.reflect.Constructor;
 import java.lang.reflect.Field;
 import java.lang.reflect.Method;
 import java.lang.reflect.Modifier;
 import java.nio.file.Files;
 import java.nio.file.Path;
+import java.util.ArrayDeque;
+import java.util.ArrayList;
+import java.util.Deque;
+import java.util.IdentityHashMap;
+import java.util.List;
+import java.util.Map;
 import java.util.Set;
 import java.util.TreeSet;
 import java.util.regex.Matcher;
@@ -25,9 +32,11 @@ public final class FaceTest {
         "\\bSystem\\.(?!arraycopy)", "\\bimport (?!java\\.util\\.(Arrays|ArrayList|List|Iterator);)", "\\bprotected\\b",
         "\\bvolatile\\b", "\\bnative\\b", "static \\{", "\\bRandom\\b", "\\bThread\\b", "@"};
 
-    public static void main(String[] args) throws IOException {
+    public static void main(String[] args) throws IOException, IllegalAccessException {
         methods();
         others();
+        membersInside();
+        room();
         source();
         Check.end();
     }
@@ -80,6 +89,72 @@ public final class FaceTest {
         for (Class<?> c : inside) {
             Check.isTrue(c + " is static", Modifier.isStatic(c.getModifiers()));
             Check.isTrue(c + " is not public", !Modifier.isPublic(c.getModifiers()));
+        }
+    }
+
+    // LANGUAGE.md, rules 5 and 11.
+    private static void membersInside() {
+        Set<Class<?>> forStatics = Set.of(int.class, long.class, boolean.class, char.class, String.class,
+            int[].class, long[].class, char[].class, byte[].class);
+        List<Class<?>> all = new ArrayList<>(List.of(LeftTown.class.getDeclaredClasses()));
+        all.add(LeftTown.class);
+        for (Class<?> c : all) {
+            int fields = 0;
+            for (Field f : c.getDeclaredFields()) {
+                boolean isStatic = Modifier.isStatic(f.getModifiers());
+                fields += isStatic ? 0 : 1;
+                Check.isTrue(f + " is a constant", !isStatic || Modifier.isFinal(f.getModifiers()) && forStatics.contains(f.getType()));
+            }
+            Check.isTrue(c + " has twenty fields at most", fields <= 20);
+            for (Method m : c.getDeclaredMethods()) {
+                Check.isTrue(m + " takes seven at most", m.getParameterCount() <= 7);
+            }
+        }
+    }
+
+    // All calls of a run live in one room of 600,000 objects: a town and what its calls make stay far below.
+    private static void room() throws IllegalAccessException {
+        LeftTown town = Check.star();
+        town.shelf(0, 0, 0, 6);
+        town.act(0, 3, 1);
+        town.keep();
+        Map<Object, Integer> seen = new IdentityHashMap<>();
+        Deque<Object> todo = new ArrayDeque<>(List.of(town));
+        int sizes = 0;
+        while (!todo.isEmpty()) {
+            Object it = todo.pop();
+            if (seen.put(it, 1) == null) {
+                sizes += partsOf(it, todo);
+            }
+        }
+        Check.isTrue(seen.size() + " objects, 300 at most", seen.size() <= 300);
+        Check.isTrue(sizes + " fields and elements, 5000 at most", sizes <= 5000);
+    }
+
+    private static int partsOf(Object it, Deque<Object> todo) throws IllegalAccessException {
+        if (it.getClass().isArray()) {
+            int length = Array.getLength(it);
+            for (int i = 0; i < length && !it.getClass().getComponentType().isPrimitive(); i++) {
+                addPart(Array.get(it, i), todo);
+            }
+            return length;
+        }
+        int fields = 0;
+        for (Class<?> c = it.getClass(); c != Object.class; c = c.getSuperclass()) {
+            for (Field f : c.getDeclaredFields()) {
+                if (!Modifier.isStatic(f.getModifiers())) {
+                    fields++;
+                    f.setAccessible(true);
+                    addPart(f.getType().isPrimitive() ? null : f.get(it), todo);
+                }
+            }
+        }
+        return fields;
+    }
+
+    private static void addPart(Object part, Deque<Object> todo) {
+        if (part != null) {
+            todo.add(part);
         }
     }
 

@@ -18,8 +18,11 @@ public final class ModelTest {
         chance = new Random(seed);
     }
 
+    /** Other runs than .ci/run's: the first seed and how many may be told. */
     public static void main(String[] args) {
-        for (int seed = 0; seed < RUNS; seed++) {
+        int first = args.length < 1 ? 0 : Integer.parseInt(args[0]);
+        int runs = args.length < 2 ? RUNS : Integer.parseInt(args[1]);
+        for (int seed = first; seed < first + runs; seed++) {
             if (!new ModelTest(seed).run(seed)) {
                 break;
             }
